@@ -36,7 +36,7 @@ public final class UnderstudyHouse {
     private static final int KINDS = 7;
     /** The kind above each kind; -1: there is none. */
     private static final int[] ABOVE = {-1, PART, PART, PART, DOUBLED, SILENT, DEAD};
-    private static final int MOST_SPLIT_LEARNT_LINES = 50;
+    private static final int MOST_SPLIT_LINES = 50;
 
     private static final int CLAPS = 0;
     private static final int WAGE = 1;
@@ -236,24 +236,26 @@ public final class UnderstudyHouse {
         if (!isWithin(n, 1, MOST_SEASON)) {
             return error(BEYOND);
         }
-        int done = 0;
-        while (done < n && now.troupe.night < MOST_NIGHT && playFirst(now.troupe)) {
-            done++;
-        }
-        return done;
+        return playFirsts(now.troupe, Math.min(n, MOST_NIGHT - now.troupe.night));
     }
 
     public int loose(int n) {
         if (!isWithin(n, 1, MOST_LOOSE)) {
             return error(BEYOND);
         }
-        if (now.troupe.night + n > MOST_NIGHT) {
+        Troupe troupe = now.troupe;
+        if (troupe.night + n > MOST_NIGHT) {
             return error(STATE);
         }
         for (int i = 0; i < n; i++) {
-            playLoose(now.troupe);
+            if (troupe.players > 0) {
+                troupe.ill ^= 1 << now.draw() % troupe.players;
+            }
+            if (playFirsts(troupe, 1) == 0) {
+                troupe.night++;
+            }
         }
-        return now.troupe.allPurses();
+        return troupe.allPurses();
     }
 
     // ---- castings, what would be
@@ -276,7 +278,7 @@ public final class UnderstudyHouse {
     }
 
     public int season() {
-        return seasonOf(think());
+        return playFirsts(think(), MOST_SEASON);
     }
 
     public int then(int n, int player, int what) {
@@ -301,7 +303,7 @@ public final class UnderstudyHouse {
             if ((behind.knows[player] >> part & 1) == 1) {
                 return n;
             }
-            if (!playFirst(behind)) {
+            if (playFirsts(behind, 1) == 0) {
                 return error(NONE);
             }
         }
@@ -385,10 +387,10 @@ public final class UnderstudyHouse {
         if (now.troupe.players >= MOST_PLAYERS) {
             return error(FULL);
         }
-        int without = seasonOf(think());
+        int without = playFirsts(think(), MOST_SEASON);
         Troupe more = think();
         more.addPlayer(-1, parts);
-        return seasonOf(more) - without;
+        return playFirsts(more, MOST_SEASON) - without;
     }
 
     // ---- draws, voices, sheets, images, what is told
@@ -516,7 +518,7 @@ public final class UnderstudyHouse {
         int answer = 0;
         Troupe behind = think();
         for (int i = 0; i < now.waiting.size && answer == 0; i++) {
-            playFirst(behind);
+            playFirsts(behind, 1);
             if (now.waiting.items[i] != behind.allPurses()) {
                 answer = 1 + i;
             }
@@ -586,35 +588,16 @@ public final class UnderstudyHouse {
         return thought;
     }
 
-    private boolean playFirst(Troupe troupe) {
-        search.begin(troupe, 0);
-        if (!search.goesOn()) {
-            return false;
-        }
-        troupe.play(search.row, now.claps, now.wage);
-        return true;
-    }
-
+    /** Plays nights with the first casting each, till there is none: how many. */
     private int playFirsts(Troupe troupe, int most) {
-        int done = 0;
-        while (done < most && playFirst(troupe)) {
-            done++;
+        for (int done = 0; done < most; done++) {
+            search.begin(troupe, 0);
+            if (!search.goesOn()) {
+                return done;
+            }
+            troupe.play(search.row, now.claps, now.wage);
         }
-        return done;
-    }
-
-    private int seasonOf(Troupe troupe) {
-        return playFirsts(troupe, MOST_SEASON);
-    }
-
-    private void playLoose(Troupe troupe) {
-        if (troupe.players > 0) {
-            int player = now.draw() % troupe.players;
-            troupe.ill ^= 1 << player;
-        }
-        if (!playFirst(troupe)) {
-            troupe.night++;
-        }
+        return most;
     }
 
     /** The first number with which a row is no casting; -1: it is one. */
@@ -833,17 +816,14 @@ public final class UnderstudyHouse {
         }
 
         int whoMay(int part) {
-            return whoMayIfWell(part) & ~ill & allPlayers();
-        }
-
-        private int whoMayIfWell(int part) {
+            int well = allPlayers() & ~ill;
             switch (kind[part]) {
-                case SILENT: return ~whoHold(played, part);
+                case SILENT: return well & ~whoHold(played, part);
                 case DEAD: return 0;
-                case SPLIT: return lines[part] <= MOST_SPLIT_LEARNT_LINES ? whoStandIn(part) : whoKnow(part);
-                case CAT: return allPlayers();
-                case GHOST: return isEmpty(part) ? 0 : whoOwn(part);
-                default: return whoStandIn(part);
+                case SPLIT: return well & (lines[part] <= MOST_SPLIT_LINES ? whoStandIn(part) : whoHold(knows, part));
+                case CAT: return well;
+                case GHOST: return isEmpty(part) ? 0 : well & whoOwn(part);
+                default: return well & whoStandIn(part);
             }
         }
 
@@ -851,7 +831,7 @@ public final class UnderstudyHouse {
             if (gala == 1) {
                 return whoOwn(part);
             }
-            return whoKnow(part) & ~whoHold(played, part) & ~whoOwn(part);
+            return whoHold(knows, part) & ~whoHold(played, part) & ~whoOwn(part);
         }
 
         int whatMay(int player) {
@@ -958,13 +938,13 @@ public final class UnderstudyHouse {
         }
 
         private void step() {
-            int bit = Integer.lowestOneBit(left[at]);
+            int bit = left[at] & -left[at];
             if (bit == 0) {
                 at--;
                 return;
             }
             left[at] &= ~bit;
-            row[at] = Integer.numberOfTrailingZeros(bit) - 1;
+            row[at] = Integer.bitCount(bit - 1) - 1;
             taken[at + 1] = taken[at] | (alone[at] ? bit : 0);
             at++;
             if (at < parts) {
@@ -1031,44 +1011,34 @@ public final class UnderstudyHouse {
             stack.clear();
             for (int i = 0; i < code.size; i++) {
                 int item = code.items[i];
+                int top = stack.size - 1;
                 if (item >= 0) {
                     stack.add(item);
                 } else if (item >= -3) {
                     stack.add(item == -1 ? a : item == -2 ? b : c);
-                } else {
-                    work(-item);
+                } else if (item == -'!' && top >= 0) {
+                    stack.items[top] = stack.items[top] == 0 ? 1 : 0;
+                } else if (top >= 1) {
+                    stack.items[top - 1] = joined(-item, stack.items[top - 1], stack.items[top]);
+                    stack.size = top;
                 }
             }
             return stack.size > 0 ? stack.items[0] : 0;
         }
 
-        private void work(int sign) {
-            int top = stack.size - 1;
-            if (sign == '!' && top >= 0) {
-                stack.items[top] = truth(stack.items[top] == 0);
-            } else if (top >= 1) {
-                stack.items[top - 1] = joined(sign, stack.items[top - 1], stack.items[top]);
-                stack.size = top;
-            }
-        }
-
         private static int joined(int sign, int a, int b) {
             switch (sign) {
-                case '|': return truth(a != 0 || b != 0);
-                case '&': return truth(a != 0 && b != 0);
-                case '<': return truth(a < b);
-                case '=': return truth(a == b);
-                case '>': return truth(a > b);
+                case '|': return a != 0 || b != 0 ? 1 : 0;
+                case '&': return a != 0 && b != 0 ? 1 : 0;
+                case '<': return a < b ? 1 : 0;
+                case '=': return a == b ? 1 : 0;
+                case '>': return a > b ? 1 : 0;
                 case '+': return a + b;
                 case '-': return a - b;
                 case '*': return a * b;
                 case '/': return b == 0 ? 0 : a / b;
                 default: return b == 0 ? 0 : a % b;
             }
-        }
-
-        private static int truth(boolean so) {
-            return so ? 1 : 0;
         }
     }
 
