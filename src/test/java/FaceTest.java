@@ -47,7 +47,8 @@ public final class FaceTest {
             for (Class<?> type : method.getParameterTypes()) {
                 face.append(type == int.class ? 'i' : type == long.class ? 'l' : '?');
             }
-            DUE.due("public int " + face, method.getModifiers() == Modifier.PUBLIC && method.getReturnType() == int.class ? 1 : 0, 1);
+            boolean open = method.getModifiers() == Modifier.PUBLIC && method.getReturnType() == int.class;
+            DUE.due("public int " + face, open ? 1 : 0, 1);
             found.add(face.toString());
             names.add(method.getName());
         }

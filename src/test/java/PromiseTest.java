@@ -674,6 +674,12 @@ public final class PromiseTest {
         due("no such casting", x.changes(0, 1) == NONE ? 1 : 0, 0);
         x.change(2, 3, 1);
         due("no such casting", x.changes(0, 0), NONE);
+        UnderstudyHouse y = house(50, 50, 10, 40, 10);
+        players(y, 31, 31);
+        Due.row(y, 0, 8, 0, 0, 0, 0, 0);
+        due("all five", y.changes(0, 0), NONE);
+        y.become(1, 30);
+        due("all five, the empty one by what was told", y.changes(0, 0), 5);
         due("sheet 4", x.changes(4, 0), BEYOND);
         due("sheet -1", x.changes(-1, 0), BEYOND);
         due("player 3", x.changes(0, 3), BEYOND);
@@ -812,6 +818,8 @@ public final class PromiseTest {
         due("sheet", x.sheet(0, 8, 40), 1);
         due("put at its end", x.put(0, 39, 1), 1);
         due("put behind it", x.put(0, 40, 1), BEYOND);
+        x.put(0, 0, 7);
+        x.put(0, 1, 8);
         due("anew", x.sheet(0, 16, 2), 1);
         due("loads", x.loads(0), 2);
         due("all are 0", x.ofPart(0, 2) + x.ofPart(1, 2), 0);
@@ -869,6 +877,9 @@ public final class PromiseTest {
         due("to the left", x.move(0, 1, 0, 0, 3), 3);
         lines(x, 0, 1, 2, 3, 3);
         Due.row(x, 1, 8, 9, 9, 9, 9);
+        due("all to the next", x.move(1, 0, 0, 0, 4), 4);
+        lines(x, 0, 9, 9, 9, 9);
+        Due.row(x, 0, 8, 1, 2, 3, 3);
         due("to another", x.move(0, 1, 1, 2, 2), 2);
         lines(x, 1, 9, 9, 2, 3);
         lines(x, 0, 1, 2, 3, 3);
