@@ -10,7 +10,6 @@ public final class UnderstudyHouse {
 
     private static final int MOST_PARTS = 5;
     private static final int MOST_PLAYERS = 6;
-    private static final int MOST_MARK = 9;
     private static final int MOST_LINES = 99;
     private static final int MOST_APPLAUSE = 99999;
     private static final int MOST_PURSE = 9999;

@@ -20,8 +20,23 @@ final class Due {
         }
     }
 
-    int wrong() {
-        return wrong;
+    /** Compares two texts of many lines; the first line that differs is told. */
+    void same(String call, String got, String want) {
+        asked++;
+        if (!got.equals(want)) {
+            wrong++;
+            if (wrong <= MOST_SHOWN) {
+                System.out.println(call + ": " + firstUnlike(got.split("\n"), want.split("\n")));
+            }
+        }
+    }
+
+    private static String firstUnlike(String[] got, String[] want) {
+        int i = 0;
+        while (i < got.length && i < want.length && got[i].equals(want[i])) {
+            i++;
+        }
+        return (i < got.length ? got[i] : "nothing") + ", due is " + (i < want.length ? want[i] : "nothing");
     }
 
     void end() {

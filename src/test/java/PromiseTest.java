@@ -63,22 +63,6 @@ public final class PromiseTest {
         DUE.end();
     }
 
-    /** Parts of these kinds (10 times the kind, and m), 30 lines each. */
-    private static UnderstudyHouse house(int... kms) {
-        UnderstudyHouse x = new UnderstudyHouse();
-        for (int km : kms) {
-            x.part(km, 30);
-        }
-        return x;
-    }
-
-    private static void players(UnderstudyHouse x, int... knows) {
-        for (int set : knows) {
-            int player = x.player(-1);
-            x.change(player, 0, set);
-        }
-    }
-
     private static void promise1() {
         UnderstudyHouse x = new UnderstudyHouse();
         for (int what = 0; what <= 9; what++) {
@@ -113,8 +97,8 @@ public final class PromiseTest {
     }
 
     private static void promise3() {
-        UnderstudyHouse x = house(7, 35);
-        players(x, 1, 3);
+        UnderstudyHouse x = House.of(7, 35);
+        House.players(x, 1, 3);
         due("kind", x.ofPart(1, 0), 3);
         due("m", x.ofPart(0, 1), 7);
         due("lines", x.ofPart(0, 2), 30);
@@ -141,8 +125,8 @@ public final class PromiseTest {
             {0, 1, 8, 1}, {10, 1, 8, 1}, {20, 11, 11, 11}, {30, 0, 0, 0}, {40, 1, 8, 1}, {50, 15, 15, 15}, {60, 0, 0, 8}
         };
         for (int[] row : due) {
-            UnderstudyHouse x = house(row[0], 30);
-            players(x, 3, 0, 3, 3, 3);
+            UnderstudyHouse x = House.of(row[0], 30);
+            House.players(x, 3, 0, 3, 3, 3);
             x.change(2, 1, 3);
             x.change(3, 2, 0);
             x.change(4, 3, 1);
@@ -158,8 +142,8 @@ public final class PromiseTest {
             due("may at an odd night of " + row[0], x.ofPart(0, 5), row[3]);
             due("empty at an odd night " + row[0], x.ofPart(0, 4), row[0] == 30 ? 1 : 0);
         }
-        UnderstudyHouse x = house(40);
-        players(x, 1, 1, 0);
+        UnderstudyHouse x = House.of(40);
+        House.players(x, 1, 1, 0);
         x.change(0, 1, 1);
         x.lines(0, 50);
         due("split of 50 lines", x.ofPart(0, 5), 2);
@@ -173,7 +157,7 @@ public final class PromiseTest {
     }
 
     private static void promise4() {
-        UnderstudyHouse x = house(0);
+        UnderstudyHouse x = House.of(0);
         due("lines 99", x.lines(0, 99), 30);
         due("lines 0", x.lines(0, 0), 99);
         due("lines 100", x.lines(0, 100), BEYOND);
@@ -184,8 +168,8 @@ public final class PromiseTest {
     }
 
     private static void promise5() {
-        UnderstudyHouse x = house(14);
-        players(x, 1);
+        UnderstudyHouse x = House.of(14);
+        House.players(x, 1);
         x.nights(1);
         due("become", x.become(0, 69), 1);
         due("become again", x.become(0, 20), 6);
@@ -200,7 +184,7 @@ public final class PromiseTest {
 
     private static void promise6() {
         String[] under = {"0", "01", "02", "03", "014", "025", "036"};
-        UnderstudyHouse x = house(0);
+        UnderstudyHouse x = House.of(0);
         for (int kind = 0; kind < 7; kind++) {
             x.become(0, kind * 10 + kind);
             for (int top = 0; top < 7; top++) {
@@ -215,7 +199,7 @@ public final class PromiseTest {
     }
 
     private static void promise7() {
-        UnderstudyHouse x = house(0, 0);
+        UnderstudyHouse x = House.of(0, 0);
         due("player as none", x.player(-1), 0);
         due("player as 1", x.player(1), 1);
         due("knows his own", x.ofPlayer(1, 0), 2);
@@ -232,9 +216,9 @@ public final class PromiseTest {
     }
 
     private static void promise8() {
-        UnderstudyHouse x = house(0, 20, 50);
+        UnderstudyHouse x = House.of(0, 20, 50);
         x.player(0);
-        players(x, 7);
+        House.players(x, 7);
         due("knows", x.ofPlayer(0, 0), 1);
         due("played", x.ofPlayer(0, 1), 0);
         due("own", x.ofPlayer(0, 2), 0);
@@ -253,7 +237,7 @@ public final class PromiseTest {
     }
 
     private static void promise9() {
-        UnderstudyHouse x = house(0, 0);
+        UnderstudyHouse x = House.of(0, 0);
         x.player(1);
         due("knows", x.change(0, 0, 3), 2);
         due("knows none", x.change(0, 0, 0), 3);
@@ -280,7 +264,7 @@ public final class PromiseTest {
     }
 
     private static void promise10() {
-        UnderstudyHouse x = house(0);
+        UnderstudyHouse x = House.of(0);
         x.player(0);
         due("castings", x.castings(), 0);
         due("gala", x.gala(1), 0);
@@ -395,8 +379,8 @@ public final class PromiseTest {
 
     /** Two doubled parts, a dead one, a part; texts that read what was ahead of the night. */
     private static void promise14() {
-        UnderstudyHouse x = house(12, 13, 34, 5);
-        players(x, 11, 8, 0);
+        UnderstudyHouse x = House.of(12, 13, 34, 5);
+        House.players(x, 11, 8, 0);
         x.gala(1);
         x.gala(0);
         Due.text(x, 0, "l+m*10+k*100");
@@ -426,9 +410,9 @@ public final class PromiseTest {
     }
 
     private static void promise14Errors() {
-        UnderstudyHouse x = house(0);
+        UnderstudyHouse x = House.of(0);
         x.player(0);
-        players(x, 1);
+        House.players(x, 1);
         due("no such sheet", x.cast(4), BEYOND);
         due("no such sheet", x.cast(-1), BEYOND);
         due("missing", x.cast(0), NONE);
@@ -447,26 +431,16 @@ public final class PromiseTest {
         due("a night without parts", none.cast(0), 1);
     }
 
-    /** A night of nobody goes by in each of the calls, till night 9999. */
-    private static UnderstudyHouse oldHouse() {
-        UnderstudyHouse x = new UnderstudyHouse();
-        for (int i = 0; i < 166; i++) {
-            x.nights(60);
-        }
-        x.nights(39);
-        return x;
-    }
-
     private static void promise14Held() {
-        UnderstudyHouse x = oldHouse();
+        UnderstudyHouse x = House.old(9999);
         due("night", x.count(2), 9999);
         x.sheet(0, 8, 0);
         due("cast at 9999", x.cast(0), STATE);
         due("nights at 9999", x.nights(5), 0);
         due("season beyond 9999", x.season(), 60);
         due("loose beyond 9999", x.loose(1), STATE);
-        UnderstudyHouse y = house(50);
-        players(y, 0);
+        UnderstudyHouse y = House.of(50);
+        House.players(y, 0);
         Due.text(y, 0, "999");
         Due.text(y, 1, "99");
         due("nights", y.nights(60) + y.nights(40), 100);
@@ -481,8 +455,8 @@ public final class PromiseTest {
     }
 
     private static void promise15() {
-        UnderstudyHouse x = house(0);
-        players(x, 1, 1, 0);
+        UnderstudyHouse x = House.of(0);
+        House.players(x, 1, 1, 0);
         due("nights 0", x.nights(0), BEYOND);
         due("nights 61", x.nights(61), BEYOND);
         due("nights 1", x.nights(1), 1);
@@ -491,10 +465,10 @@ public final class PromiseTest {
         due("the second plays", x.ofPlayer(1, 1), 1);
         due("night", x.count(2), 2);
         due("none any more", x.nights(1), 0);
-        UnderstudyHouse y = oldHouse();
+        UnderstudyHouse y = House.old(9999);
         due("night 9999", y.count(2), 9999);
-        UnderstudyHouse z = house(60);
-        players(z, 0);
+        UnderstudyHouse z = House.of(60);
+        House.players(z, 0);
         z.change(0, 2, 0);
         due("a ghost's nights", z.nights(60), 60);
         due("every other one is played", z.ofPlayer(0, 3), 30 * 4);
@@ -504,8 +478,8 @@ public final class PromiseTest {
 
     /** z from 1 on: 1103527590 >>> 8 is 4310654, 2524885223 >>> 8 is 9862832. */
     private static void promise16() {
-        UnderstudyHouse x = house(50);
-        players(x, 0, 0, 0);
+        UnderstudyHouse x = House.of(50);
+        House.players(x, 0, 0, 0);
         due("loose 0", x.loose(0), BEYOND);
         due("loose 41", x.loose(41), BEYOND);
         due("loose 1", x.loose(1), 4);
@@ -514,8 +488,8 @@ public final class PromiseTest {
         due("loose 1", x.loose(1), 8);
         due("z", x.count(10), (int) 2524885223L);
         due("ill", x.count(6), 1 << 4310654 % 3 ^ 1 << 9862832 % 3);
-        UnderstudyHouse y = house(0);
-        players(y, 0);
+        UnderstudyHouse y = House.of(0);
+        House.players(y, 0);
         y.gala(1);
         due("no casting", y.loose(3), 0);
         due("gala stays", y.count(3), 1);
@@ -537,8 +511,8 @@ public final class PromiseTest {
     }
 
     private static void promise17() {
-        UnderstudyHouse x = house(0, 10, 30, 0);
-        players(x, 8, 11, 3);
+        UnderstudyHouse x = House.of(0, 10, 30, 0);
+        House.players(x, 8, 11, 3);
         int[] due = {1, 1, -1, 0};
         for (int part = 0; part < 4; part++) {
             due("first of " + part, x.first(part), due[part]);
@@ -554,31 +528,31 @@ public final class PromiseTest {
     }
 
     private static void promise18() {
-        UnderstudyHouse x = house(20, 50, 20);
-        players(x, 0, 0, 0, 0, 0, 0);
+        UnderstudyHouse x = House.of(20, 50, 20);
+        House.players(x, 0, 0, 0, 0, 0, 0);
         due("one each", x.castings(), 6 * 5 * 4);
         x.part(0, 5);
         due("one blocked", x.castings(), 0);
         x.become(3, 30);
         due("one empty", x.castings(), 6 * 5 * 4);
-        UnderstudyHouse y = house(10, 10, 40, 40, 10);
-        players(y, 31, 31, 31, 31, 31, 31);
+        UnderstudyHouse y = House.of(10, 10, 40, 40, 10);
+        House.players(y, 31, 31, 31, 31, 31, 31);
         due("all doubled", y.castings(), 6 * 6 * 6 * 6 * 6);
         y.become(0, 0);
         y.become(4, 0);
         due("two that aren't", y.castings(), 6 * 6 * 6 * 6 * 5);
         due("nobody and nothing", new UnderstudyHouse().castings(), 1);
-        due("nobody", house(20).castings(), 0);
+        due("nobody", House.of(20).castings(), 0);
     }
 
     private static void promise19() {
-        UnderstudyHouse x = house(0, 0);
-        players(x, 1, 2);
+        UnderstudyHouse x = House.of(0, 0);
+        House.players(x, 1, 2);
         due("season", x.season(), 2);
         due("only thought", x.count(2) + x.count(4) + x.count(5) + x.ofPlayer(0, 1), 0);
-        due("at most 60", house(30).season(), 60);
-        due("none at all", house(50).season(), 0);
-        UnderstudyHouse y = house(0);
+        due("at most 60", House.of(30).season(), 60);
+        due("none at all", House.of(50).season(), 0);
+        UnderstudyHouse y = House.of(0);
         y.player(0);
         due("no gala", y.season(), 0);
         y.gala(1);
@@ -587,8 +561,8 @@ public final class PromiseTest {
     }
 
     private static void promise20() {
-        UnderstudyHouse x = house(0, 0);
-        players(x, 1, 2);
+        UnderstudyHouse x = House.of(0, 0);
+        House.players(x, 1, 2);
         due("behind 0", x.then(0, 0, 0), 1);
         due("behind 1 knows", x.then(1, 0, 0), 3);
         due("behind 1 played", x.then(1, 0, 1), 1);
@@ -605,8 +579,8 @@ public final class PromiseTest {
     }
 
     private static void promise21() {
-        UnderstudyHouse x = house(0, 0, 30, 30);
-        players(x, 1, 2);
+        UnderstudyHouse x = House.of(0, 0, 30, 30);
+        House.players(x, 1, 2);
         due("at once", x.learns(0, 0), 0);
         due("behind 1", x.learns(0, 1), 1);
         due("behind 2", x.learns(0, 2), 2);
@@ -616,8 +590,8 @@ public final class PromiseTest {
         due("player -1", x.learns(-1, 0), BEYOND);
         due("part 4", x.learns(0, 4), BEYOND);
         due("part -1", x.learns(0, -1), BEYOND);
-        UnderstudyHouse y = house(50, 30, 0);
-        players(y, 0);
+        UnderstudyHouse y = House.of(50, 30, 0);
+        House.players(y, 0);
         y.become(2, 30);
         due("not by then", y.learns(0, 2), NONE);
         due("beside it", y.learns(0, 1), 1);
@@ -625,9 +599,9 @@ public final class PromiseTest {
     }
 
     private static void promise22() {
-        UnderstudyHouse x = house(0, 30, 60, 20, 50);
+        UnderstudyHouse x = House.of(0, 30, 60, 20, 50);
         due("nobody at all", x.blocked(), 25);
-        players(x, 0);
+        House.players(x, 0);
         due("who knows nothing", x.blocked(), 1);
         x.change(0, 3, 1);
         due("who is ill", x.blocked(), 25);
@@ -641,25 +615,25 @@ public final class PromiseTest {
     }
 
     private static void promise23() {
-        UnderstudyHouse x = house(0, 0);
-        players(x, 1, 3, 2, 0);
+        UnderstudyHouse x = House.of(0, 0);
+        House.players(x, 1, 3, 2, 0);
         due("who knows nothing", x.idle(), 8);
         x.change(2, 3, 1);
         due("the second is needed", x.idle(), 12);
         x.change(1, 3, 1);
         due("no casting", x.idle(), 15);
         due("nobody", new UnderstudyHouse().idle(), 0);
-        UnderstudyHouse y = house(0, 0);
-        players(y, 1, 3, 1);
+        UnderstudyHouse y = House.of(0, 0);
+        House.players(y, 1, 3, 1);
         due("all", y.idle(), 0);
-        UnderstudyHouse z = house(30);
-        players(z, 1, 1);
+        UnderstudyHouse z = House.of(30);
+        House.players(z, 1, 1);
         due("all parts are empty", z.idle(), 3);
     }
 
     private static void promise24() {
-        UnderstudyHouse x = house(0, 0, 30);
-        players(x, 7, 7, 7);
+        UnderstudyHouse x = House.of(0, 0, 30);
+        House.players(x, 7, 7, 7);
         Due.row(x, 0, 8, 0, 1, -1);
         due("without 0", x.changes(0, 0), 1);
         due("without 1", x.changes(0, 1), 1);
@@ -674,8 +648,8 @@ public final class PromiseTest {
         due("no such casting", x.changes(0, 1) == NONE ? 1 : 0, 0);
         x.change(2, 3, 1);
         due("no such casting", x.changes(0, 0), NONE);
-        UnderstudyHouse y = house(50, 50, 10, 40, 10);
-        players(y, 31, 31);
+        UnderstudyHouse y = House.of(50, 50, 10, 40, 10);
+        House.players(y, 31, 31);
         Due.row(y, 0, 8, 0, 0, 0, 0, 0);
         due("all five", y.changes(0, 0), NONE);
         y.become(1, 30);
@@ -692,8 +666,8 @@ public final class PromiseTest {
     }
 
     private static void promise25() {
-        UnderstudyHouse x = house(0, 0, 0);
-        players(x, 1, 2, 5);
+        UnderstudyHouse x = House.of(0, 0, 0);
+        House.players(x, 1, 2, 5);
         due("nobody", x.tells(0), 0);
         due("0", x.tells(1), 1);
         due("0 and 1", x.tells(3), 3);
@@ -704,8 +678,8 @@ public final class PromiseTest {
     }
 
     private static void promise26() {
-        UnderstudyHouse x = house(10, 10, 30);
-        players(x, 3, 3, 0);
+        UnderstudyHouse x = House.of(10, 10, 30);
+        House.players(x, 3, 3, 0);
         Due.row(x, 0, 8, 4, 4, 0);
         due("one each", x.fits(0, -1), 2);
         due("the least", x.fits(0, 0), 0);
@@ -726,8 +700,8 @@ public final class PromiseTest {
         Due.row(x, 1, 8, 4, 4);
         due("too short", x.fits(1, -1), NONE);
         due("only thought", x.count(5), 0);
-        UnderstudyHouse y = house(50);
-        players(y, 0);
+        UnderstudyHouse y = House.of(50);
+        House.players(y, 0);
         Due.text(y, 1, "99");
         y.nights(60);
         y.nights(41);
@@ -736,20 +710,20 @@ public final class PromiseTest {
     }
 
     private static void promise27() {
-        UnderstudyHouse x = house(0);
-        players(x, 1);
+        UnderstudyHouse x = House.of(0);
+        House.players(x, 1);
         due("one who knows it", x.spare(1), 1);
         due("one who doesn't", x.spare(0), 0);
         due("parts 2", x.spare(2), BEYOND);
         due("parts -1", x.spare(-1), BEYOND);
         due("only thought", x.count(1), 1);
         due("again the same", x.spare(1), 1);
-        players(x, 0, 0, 0, 0);
+        House.players(x, 0, 0, 0, 0);
         due("with five", x.spare(1), 1);
-        players(x, 0);
+        House.players(x, 0);
         due("with six", x.spare(1), FULL);
         due("beyond ahead of full", x.spare(2), BEYOND);
-        UnderstudyHouse y = house(50);
+        UnderstudyHouse y = House.of(50);
         due("nobody but one", y.spare(0), 60);
     }
 
@@ -774,12 +748,12 @@ public final class PromiseTest {
             {7, 14, -2 ^ 2, 14 - (14 ^ -2 ^ 2)}
         };
         for (int kind = 0; kind < 7; kind++) {
-            UnderstudyHouse x = house(0, 0, kind * 10 + 3);
+            UnderstudyHouse x = House.of(0, 0, kind * 10 + 3);
             for (int act = 0; act < 4; act++) {
                 due("voice of " + kind + " for " + act, x.voice(2, act, 5), due[kind][act]);
             }
         }
-        UnderstudyHouse x = house(5);
+        UnderstudyHouse x = House.of(5);
         due("goes round", x.voice(0, 2, MIN), MAX - 4);
         due("any number", x.voice(0, 0, BEYOND), BEYOND);
         due("act 4", x.voice(0, 4, 0), BEYOND);
@@ -794,7 +768,7 @@ public final class PromiseTest {
             {13, 11, 10, 12}, {13, 20, 11, 10, 12, 12}, {13, 11, 30, 10, 12}, {13, 11, 10, 40, 12},
             {13, 50, 20, 11, 10, 12, 12}, {60, 13, 11, 30, 10, 12, 30, 10}, {71, 11, 10, 13, 11, 10, 70, 40, 12}
         };
-        UnderstudyHouse x = house(0);
+        UnderstudyHouse x = House.of(0);
         for (int kind = 0; kind < 7; kind++) {
             x.become(0, kind * 10);
             x.voice(0, 3, 1);
@@ -814,7 +788,7 @@ public final class PromiseTest {
     }
 
     private static void promise31() {
-        UnderstudyHouse x = house(30, 30);
+        UnderstudyHouse x = House.of(30, 30);
         due("sheet", x.sheet(0, 8, 40), 1);
         due("put at its end", x.put(0, 39, 1), 1);
         due("put behind it", x.put(0, 40, 1), BEYOND);
@@ -840,8 +814,8 @@ public final class PromiseTest {
     }
 
     private static void promise32() {
-        UnderstudyHouse x = house(0);
-        players(x, 1, 1);
+        UnderstudyHouse x = House.of(0);
+        House.players(x, 1, 1);
         due("missing", x.put(0, 0, 0), NONE);
         due("missing ahead of no such number", x.put(0, -1, 0), NONE);
         due("sheet 4", x.put(4, 0, 0), BEYOND);
@@ -870,7 +844,7 @@ public final class PromiseTest {
     }
 
     private static void promise33() {
-        UnderstudyHouse x = house(0, 0, 0, 0);
+        UnderstudyHouse x = House.of(0, 0, 0, 0);
         Due.row(x, 0, 8, 1, 2, 3, 4);
         due("to the right", x.move(0, 0, 0, 1, 3), 3);
         lines(x, 0, 1, 1, 2, 3);
@@ -911,7 +885,7 @@ public final class PromiseTest {
     }
 
     private static void promise34() {
-        UnderstudyHouse x = house(0, 0, 0);
+        UnderstudyHouse x = House.of(0, 0, 0);
         Due.row(x, 0, 16, 99, 0, 100);
         due("up to 100", x.loads(0), 2);
         due("lines", x.ofPart(0, 2), 99);
@@ -930,8 +904,8 @@ public final class PromiseTest {
     }
 
     private static void promise35() {
-        UnderstudyHouse x = house(0, 30, 10, 0);
-        players(x, 15, 15, 0);
+        UnderstudyHouse x = House.of(0, 30, 10, 0);
+        House.players(x, 15, 15, 0);
         Object[][] rows = {
             {new int[] {0, -1, 0, 1}, -1}, {new int[] {0, -1, 1, 1}, -1}, {new int[] {0, -1, 1, 0}, 3},
             {new int[] {2, -1, 0, 1}, 0}, {new int[] {0, 0, 0, 1}, 1}, {new int[] {0, -2, 0, 1}, 1},
@@ -954,7 +928,7 @@ public final class PromiseTest {
     }
 
     private static void promise36() {
-        UnderstudyHouse x = house(0);
+        UnderstudyHouse x = House.of(0);
         due("image", x.image(), 1);
         x.part(0, 0);
         due("image in place", x.image(), 2);
@@ -965,9 +939,9 @@ public final class PromiseTest {
     }
 
     private static void promise37() {
-        UnderstudyHouse x = house(3);
+        UnderstudyHouse x = House.of(3);
         due("none", x.restore(), NONE);
-        players(x, 1, 1);
+        House.players(x, 1, 1);
         x.nights(1);
         x.change(1, 3, 1);
         x.gala(1);
@@ -1031,8 +1005,8 @@ public final class PromiseTest {
     }
 
     private static void promise39() {
-        UnderstudyHouse x = house(0);
-        players(x, 1, 1);
+        UnderstudyHouse x = House.of(0);
+        House.players(x, 1, 1);
         due("none wait", x.check(), 0);
         told(x, 4, 8, 8, 8);
         due("all so", x.check(), 0);
@@ -1055,8 +1029,8 @@ public final class PromiseTest {
     }
 
     private static void promise40() {
-        UnderstudyHouse x = house(10, 10);
-        players(x, 3, 3, 3);
+        UnderstudyHouse x = House.of(10, 10);
+        House.players(x, 3, 3, 3);
         x.change(1, 3, 1);
         x.change(2, 3, 1);
         x.nights(1);
