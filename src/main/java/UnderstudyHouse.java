@@ -933,7 +933,7 @@ public final class UnderstudyHouse {
             for (int i = 0; i < MOST_STEPS && at >= 0 && at < parts; i++) {
                 step();
             }
-            return at >= 0 && at == parts;
+            return at == parts;
         }
 
         private void step() {

@@ -518,6 +518,13 @@ public final class BoundsTest {
         due("all five without him", x.changes(2, 0), 5);
         x.change(5, 3, 1);
         due("no such casting", x.changes(0, 0), NONE);
+        UnderstudyHouse later = House.of(50, 50, 50, 50);
+        House.players(later, 0, 0, 0, 0, 0, 0);
+        Due.row(later, 0, 8, 0, 1, 2, 5);
+        due("none by a casting behind one with one change", later.changes(0, 4), 0);
+        Due.row(later, 0, 8, 5, 3, 2, 1);
+        due("none by a casting behind many", later.changes(0, 0), 0);
+        due("one by a casting behind many", later.changes(0, 5), 1);
         UnderstudyHouse y = House.of(30, 60);
         House.players(y, 0);
         Due.row(y, 0, 8, -1, -1);
