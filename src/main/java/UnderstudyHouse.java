@@ -63,7 +63,7 @@ public final class UnderstudyHouse {
         kept = new Book();
         thought = new Troupe();
         search = new Castings();
-        reader = new Reader(now.tape);
+        reader = new Reader();
         voices = new Voices();
         sheets = new Sheet[SHEETS];
         for (int i = 0; i < SHEETS; i++) {
@@ -198,7 +198,7 @@ public final class UnderstudyHouse {
         if (!isWithin(use, 0, USES - 1)) {
             return error(BEYOND);
         }
-        boolean good = reader.reads(use);
+        boolean good = reader.reads(use, now.tape);
         now.tape.clear();
         if (!good) {
             return -10 - reader.place;
@@ -1041,7 +1041,7 @@ public final class UnderstudyHouse {
         }
     }
 
-    /** Reads the tape as a text, and writes its code. */
+    /** Reads a tape as a text, and writes its code. */
     private static final class Reader {
         private static final String CLAPS_NAMES = "lmk";
         private static final String WAGE_NAMES = "lpn";
@@ -1053,22 +1053,19 @@ public final class UnderstudyHouse {
         final Row code = new Row(MOST_TAPE);
         /** The byte that comes next; the fault, if the tape is no text. */
         int place;
-        private final Row tape;
+        private final Row bytes = new Row(MOST_TAPE);
         private String names = CLAPS_NAMES;
 
-        Reader(Row tape) {
-            this.tape = tape;
-        }
-
-        boolean reads(int use) {
+        boolean reads(int use, Row tape) {
+            bytes.copyFrom(tape);
             names = use == CLAPS ? CLAPS_NAMES : WAGE_NAMES;
             place = 0;
             code.clear();
-            return readLevel(0, 0) && place == tape.size;
+            return readLevel(0, 0) && place == bytes.size;
         }
 
         private int sign() {
-            return place < tape.size ? tape.items[place] : -1;
+            return place < bytes.size ? bytes.items[place] : -1;
         }
 
         private static int levelOf(int sign) {
