@@ -52,6 +52,7 @@ public final class TermsTest {
         pursesThatFit();
         spareNights();
         draws();
+        manyDraws();
         nightsByDraws();
         voicesThatWrap();
         traces();
@@ -817,6 +818,21 @@ public final class TermsTest {
         UnderstudyHouse five = House.of(20);
         House.players(five, 0, 0, 0, 0, 0);
         due("the sixth", five.spare(0), 1);
+        UnderstudyHouse gala = House.of(0);
+        gala.player(0);
+        gala.gala(1);
+        due("season of a gala", gala.season(), 1);
+        due("a gala with one more, who knows nothing", gala.spare(0), 0);
+        due("a gala with one more, who knows it", gala.spare(1), 1);
+        due("gala still", gala.count(3), 1);
+        UnderstudyHouse ill = House.of(50);
+        House.players(ill, 0);
+        ill.change(0, 3, 1);
+        due("one more, who isn't ill", ill.spare(0), 60);
+        UnderstudyHouse once = House.of(20);
+        House.players(once, 0, 0);
+        once.change(1, 3, 1);
+        due("one more; who is ill still is", once.spare(0), 1);
     }
 
     /** z and what it gives, worked out with longs. */
@@ -835,6 +851,32 @@ public final class TermsTest {
                 due("z behind " + seed, x.count(10), (int) z);
                 due("ill of " + players + " by " + seed, x.count(6), 1L << given % players);
             }
+        }
+    }
+
+    /** Draw behind draw, worked out with longs: who is drawn is ill, if he wasn't, whoever else is. */
+    private static void manyDraws() {
+        for (int players = 1; players <= 6; players++) {
+            UnderstudyHouse x = new UnderstudyHouse();
+            for (int i = 0; i < players; i++) {
+                x.player(-1);
+            }
+            long z = 1;
+            int ill = 0;
+            for (int night = 1; night <= 40; night++) {
+                z = z * 1103515245L + 12345L & 0xffffffffL;
+                ill ^= 1 << z / 256 % players;
+                x.loose(1);
+                due("z at night " + night, x.count(10), (int) z);
+                due("who of " + players + " is ill at night " + night, x.count(6), ill);
+            }
+            x.loose(40);
+            for (int night = 41; night <= 80; night++) {
+                z = z * 1103515245L + 12345L & 0xffffffffL;
+                ill ^= 1 << z / 256 % players;
+            }
+            due("z behind 40 more", x.count(10), (int) z);
+            due("who of " + players + " is ill behind 40 more", x.count(6), ill);
         }
     }
 
